@@ -377,18 +377,18 @@ public final class PromisesTest {
 
     private static void havingCounts() {
         PolicyTable table = new PolicyTable();
-        table.insert(0, range(0, 0), EVERY, kind(1, 15));
+        table.insert(0, range(0, 0), EVERY, kind(0, 15));
         table.insert(1, range(1, 1), EVERY, kind(2, 7));
         table.insert(2, range(0, 2), EVERY, kind(1, 15));
         table.otherwise(3);
-        int[] counts = {0, 288, 96, 3712};
+        int[] counts = {128, 160, 96, 3712};
         for (int action = -8; action < 8; action++) {
             due("having(" + action + ")", table.having(action), counts[action & 3]);
         }
-        due("having(the least)", table.having(LEAST), 0);
+        due("having(the least)", table.having(LEAST), 128);
         due("having(the most)", table.having(MOST), 3712);
         table.otherwise(1);
-        due("default as some rules: having(1)", table.having(1), 4000);
+        due("default as some rules: having(1)", table.having(1), 3872);
         due("default as some rules: having(3)", table.having(3), 0);
     }
 
@@ -431,6 +431,13 @@ public final class PromisesTest {
         last.insert(0, range(31, 31), range(31, 31), kind(2, 8));
         due("needed for the last packet alone", last.use(0), 0);
         due("needed for all but the last packet", last.use(1), 0);
+        PolicyTable first = new PolicyTable();
+        first.insert(0, EVERY, EVERY, kind(1, 15));
+        first.insert(0, range(0, 0), range(0, 0), kind(2, 1));
+        due("needed for the first packet alone", first.use(0), 0);
+        first.otherwise(1);
+        due("still needed for the first packet", first.use(0), 0);
+        due("idle for all but the first packet", first.use(1), 2);
     }
 
     private static void useRefuses() {

@@ -4,7 +4,7 @@
  */
 public final class ReferenceRunsTest {
     private static final int RUNS = 60;
-    private static final int[] ODD = {Integer.MIN_VALUE, -33, -2, -1, 12, 13, 32, 64,
+    private static final int[] ODD = {Integer.MIN_VALUE, -33, -2, -1, 4, 12, 13, 32, 64,
         1023, 1024, Integer.MAX_VALUE};
 
     private static long state = 20261115L;
