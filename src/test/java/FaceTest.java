@@ -34,6 +34,7 @@ public final class FaceTest {
         theMethods();
         theFields();
         theText();
+        theCalls();
         Check.end();
     }
 
@@ -103,5 +104,50 @@ public final class FaceTest {
             Check.holds("arrays are made in the fields' initialisers: " + made.group().trim(),
                 made.group().matches("    private final \\w+\\[\\] \\w+ = new \\w+\\[\\w+\\];"));
         }
+    }
+
+    /** No call throws, for any arguments in any state; what it answers is checked elsewhere. */
+    private static void theCalls() {
+        int[] odd = {Integer.MIN_VALUE, Integer.MIN_VALUE + 1, -4096, -33, -2, -1, 0, 1, 3, 4, 11,
+            12, 13, 31, 32, 63, 64, 1023, 1024, 4096, 1 << 25, 1 << 30, Integer.MAX_VALUE};
+        for (int rules : new int[] {0, 1, 5, 11, 12}) {
+            PolicyTable table = new PolicyTable();
+            for (int count = 0; count < rules; count++) {
+                table.insert(0, 33 * count, 31, 16 + count);
+            }
+            try {
+                for (int first : odd) {
+                    for (int second : odd) {
+                        callAll(table, first, second, rules);
+                    }
+                }
+                Check.holds("no call throws with " + rules + " rules", true);
+            } catch (RuntimeException failure) {
+                Check.holds("no call throws with " + rules + " rules: " + failure, false);
+            }
+        }
+    }
+
+    private static void callAll(PolicyTable table, int first, int second, int rules) {
+        if (table.insert(first, second, 31, 15) > rules) {
+            table.remove(0);
+        }
+        table.insert(13, first, second, first);
+        table.insert(-1, 31, first, second);
+        if (table.remove(first) >= 0) {
+            table.insert(0, 31, 31, 15);
+        }
+        table.shift(first, second);
+        table.otherwise(first);
+        for (int third : new int[] {Integer.MIN_VALUE, -1, 0, 3, 4, Integer.MAX_VALUE}) {
+            table.decide(first, second, third);
+            table.action(first, second, third);
+            table.decide(third, first, second);
+            table.action(third, first, second);
+        }
+        table.decided(first);
+        table.having(first);
+        table.use(first);
+        table.witness(first);
     }
 }
