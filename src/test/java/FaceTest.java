@@ -13,8 +13,8 @@ import java.util.regex.Matcher;
 import java.util.regex.Pattern;
 
 /**
- * The document's public face, and those rules of LANGUAGE.md that can be seen
- * from the class and its text. Run from the root of the project.
+ * The document's public face, and some of the rules of LANGUAGE.md, by the
+ * compiled class and by words in its text. Run from the root of the project.
  */
 public final class FaceTest {
     private static final Map<String, Integer> FACE = new TreeMap<>(Map.of(
